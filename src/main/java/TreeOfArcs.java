@@ -48,11 +48,11 @@ public final class TreeOfArcs {
             throw new IllegalArgumentException("an arc goes to another node");
         }
         checkWeight(weight);
-        if (net.arcCount >= MOST_ARCS) {
-            return NONE;
+        int added = net.addArc(from, to, weight);
+        if (added != NONE) {
+            forgetSolution();
         }
-        forgetSolution();
-        return net.addArc(from, to, weight);
+        return added;
     }
 
     public long weigh(int arc, long weight)
@@ -484,20 +484,25 @@ public final class TreeOfArcs {
 
         private final Net net;
         private final Nest nest;
-        private final boolean[] isEntered = new boolean[MOST_SETS];
 
         Tree(Net net, Nest nest) {
             this.net = net;
             this.nest = nest;
         }
 
-        /** Backwards, so that a set is entered from outside before its parts are looked at. */
+        /**
+         * Goes from the set made last to the first, so that a set comes before its parts: a node
+         * that has its arc by then got it from a set around, which is entered through this one.
+         */
         void unfold() {
             Arrays.fill(arcInto, NONE);
-            Arrays.fill(isEntered, false);
+            int entered = 0;
             for (int s = nest.count - 1; s >= 0; s--) {
-                if (!isEntered[s]) {
-                    enterSet(s);
+                int arc = nest.arcOf[s];
+                if (arc != NONE && (nest.members[s] & entered) == 0) {
+                    int node = net.to[arc];
+                    arcInto[node] = arc;
+                    entered |= 1 << node;
                 }
             }
         }
@@ -535,21 +540,6 @@ public final class TreeOfArcs {
                 arc = arcInto[net.from[arc]];
             }
             return sum;
-        }
-
-        private void enterSet(int s) {
-            int arc = nest.arcOf[s];
-            if (arc == NONE) {
-                return;
-            }
-            int node = net.to[arc];
-            arcInto[node] = arc;
-            // Sets that hold one node lie within one another, and the inner ones were made first.
-            for (int part = 0; part <= s; part++) {
-                if (holds(nest.members[part], node)) {
-                    isEntered[part] = true;
-                }
-            }
         }
     }
 }
