@@ -7,6 +7,7 @@ import java.util.Random;
 public final class ModelTest {
     private static final long MOST_WEIGHT = 1099511627776L;
     private static final int MOST_CHOICES = 20000;
+    private static final int MOST_CALLS = 512;
 
     private static final Check CHECK = new Check("ModelTest");
 
@@ -22,9 +23,12 @@ public final class ModelTest {
     }
 
     private final Random dice;
-    private final TreeOfArcs x = new TreeOfArcs();
     private final Model model = new Model();
     private final int run;
+    /** The calls that made the object what it is, so that another one can be made like it. */
+    private final List<Sight.Ask> changes = new ArrayList<>();
+    private TreeOfArcs used = new TreeOfArcs();
+    private int calls = 0;
 
     private ModelTest(int seed) {
         // Seeds near one another throw nearly the same first dice, so they are spread.
@@ -32,8 +36,29 @@ public final class ModelTest {
         run = seed;
     }
 
+    /** The object for one call more; nothing is promised of one that has had 512. */
+    private TreeOfArcs x() {
+        if (calls == MOST_CALLS) {
+            used = new TreeOfArcs();
+            for (Sight.Ask change : changes) {
+                change.of(used);
+            }
+            calls = changes.size();
+        }
+        calls++;
+        return used;
+    }
+
     private void same(String call, Check.Call got, Check.Call due) {
         CHECK.sameText("run " + run + ": " + call, Check.outcome(got), Check.outcome(due));
+    }
+
+    private void sameChange(String call, Sight.Ask change, Check.Call due) {
+        String outcome = Check.outcome(() -> change.of(x()));
+        CHECK.sameText("run " + run + ": " + call, outcome, Check.outcome(due));
+        if (!outcome.startsWith("throws.")) {
+            changes.add(change);
+        }
     }
 
     // ---- nets that are made, solved, changed and solved again
@@ -43,7 +68,7 @@ public final class ModelTest {
         for (int round = 0; round < 4; round++) {
             doSolve();
             compareAll();
-            if (x.cost() != TreeOfArcs.NONE) {
+            if (x().cost() != TreeOfArcs.NONE) {
                 checkProof();
                 checkAgainstAllTrees();
             }
@@ -127,7 +152,7 @@ public final class ModelTest {
         }
         doArc(0, 23, MOST_WEIGHT);
         doSolve();
-        CHECK.same("sets of the deepest nest", x.sets(), 45);
+        CHECK.same("sets of the deepest nest", x().sets(), 45);
         compareAll();
         checkProof();
     }
@@ -137,28 +162,28 @@ public final class ModelTest {
     /** Every tree enters every set at least once, so none costs less than the duals together. */
     private void checkProof() {
         long sum = 0;
-        for (int k = 0; k < x.sets(); k++) {
-            sum += x.dual(k);
-            CHECK.same("run " + run + ": dual(" + k + ") is not below 0", x.dual(k) >= 0, true);
+        for (int k = 0; k < x().sets(); k++) {
+            sum += x().dual(k);
+            CHECK.same("run " + run + ": dual(" + k + ") is not below 0", x().dual(k) >= 0, true);
             CHECK.same("run " + run + ": tree arcs into set " + k, treeArcsInto(k), 1);
         }
-        CHECK.same("run " + run + ": cost() is the sum of the duals", x.cost(), sum);
-        for (int arc = 0; arc < x.about(1); arc++) {
-            if (x.told(arc, 2) == 1) {
+        CHECK.same("run " + run + ": cost() is the sum of the duals", x().cost(), sum);
+        for (int arc = 0; arc < x().about(1); arc++) {
+            if (x().told(arc, 2) == 1) {
                 CHECK.same("run " + run + ": slack(" + arc + ") is not below 0",
-                        x.slack(arc) >= 0, true);
+                        x().slack(arc) >= 0, true);
             }
-            if (x.told(arc, 3) == 1) {
-                CHECK.same("run " + run + ": slack(" + arc + ") in the tree", x.slack(arc), 0);
+            if (x().told(arc, 3) == 1) {
+                CHECK.same("run " + run + ": slack(" + arc + ") in the tree", x().slack(arc), 0);
             }
         }
     }
 
     private int treeArcsInto(int k) {
         int count = 0;
-        for (int arc = 0; arc < x.about(1); arc++) {
-            boolean enters = x.isIn(k, x.told(arc, 1)) && !x.isIn(k, x.told(arc, 0));
-            if (enters && x.told(arc, 3) == 1) {
+        for (int arc = 0; arc < x().about(1); arc++) {
+            boolean enters = x().isIn(k, x().told(arc, 1)) && !x().isIn(k, x().told(arc, 0));
+            if (enters && x().told(arc, 3) == 1) {
                 count++;
             }
         }
@@ -173,18 +198,18 @@ public final class ModelTest {
     /** Tries every way to give each node one open arc, where these are not too many. */
     private void checkAgainstAllTrees() {
         long choices = 1;
-        for (int node = 0; node < x.about(0); node++) {
+        for (int node = 0; node < x().about(0); node++) {
             choices = Math.min(MOST_CHOICES + 1, choices * Math.max(1, openArcsInto(node)));
         }
         if (choices > MOST_CHOICES) {
             return;
         }
-        choice = new int[x.about(0)];
+        choice = new int[x().about(0)];
         leastChoice = null;
         tryArcsInto(0);
-        CHECK.same("run " + run + ": least cost of all trees", x.cost(), leastCost);
-        for (int node = 0; node < x.about(0); node++) {
-            CHECK.same("run " + run + ": into(" + node + ") of all trees", x.into(node),
+        CHECK.same("run " + run + ": least cost of all trees", x().cost(), leastCost);
+        for (int node = 0; node < x().about(0); node++) {
+            CHECK.same("run " + run + ": into(" + node + ") of all trees", x().into(node),
                     leastChoice[node]);
         }
     }
@@ -192,7 +217,7 @@ public final class ModelTest {
     private int openArcsInto(int node) {
         int count = 0;
         for (Model.Arc arc : model.arcs) {
-            count += node != x.about(3) && arc.isOpen && arc.to == node ? 1 : 0;
+            count += node != x().about(3) && arc.isOpen && arc.to == node ? 1 : 0;
         }
         return count;
     }
@@ -200,7 +225,7 @@ public final class ModelTest {
     private void tryArcsInto(int node) {
         if (node == choice.length) {
             keepIfLess();
-        } else if (node == x.about(3)) {
+        } else if (node == x().about(3)) {
             choice[node] = -1;
             tryArcsInto(node + 1);
         } else {
@@ -293,10 +318,10 @@ public final class ModelTest {
         int arc = around(model.about(1));
         int k = around(model.sets());
         switch (dice.nextInt(12)) {
-            case 0: same("cost()", x::cost, model::cost); break;
+            case 0: same("cost()", () -> x().cost(), model::cost); break;
             case 1: askInto(node); break;
             case 2: askReached(node); break;
-            case 3: same("sets()", x::sets, model::sets); break;
+            case 3: same("sets()", () -> x().sets(), model::sets); break;
             case 4: askSet(k, around(4)); break;
             case 5: askIn(k, node); break;
             case 6: askDual(k); break;
@@ -309,8 +334,8 @@ public final class ModelTest {
     }
 
     private void compareAll() {
-        same("cost()", x::cost, model::cost);
-        same("sets()", x::sets, model::sets);
+        same("cost()", () -> x().cost(), model::cost);
+        same("sets()", () -> x().sets(), model::sets);
         for (int what = -1; what <= 5; what++) {
             askAbout(what);
         }
@@ -340,70 +365,70 @@ public final class ModelTest {
     // ---- each call on both
 
     private void doNodes(int n, int root) {
-        same("nodes(" + n + ", " + root + ")",
-                () -> { x.nodes(n, root); return 0; },
+        sameChange("nodes(" + n + ", " + root + ")",
+                x -> { x.nodes(n, root); return 0; },
                 () -> { model.nodes(n, root); return 0; });
     }
 
     private void doArc(int from, int to, long weight) {
-        same("arc(" + from + ", " + to + ", " + weight + ")",
-                () -> x.arc(from, to, weight), () -> model.arc(from, to, weight));
+        sameChange("arc(" + from + ", " + to + ", " + weight + ")",
+                x -> x.arc(from, to, weight), () -> model.arc(from, to, weight));
     }
 
     private void doWeigh(int arc, long weight) {
-        same("weigh(" + arc + ", " + weight + ")",
-                () -> x.weigh(arc, weight), () -> model.weigh(arc, weight));
+        sameChange("weigh(" + arc + ", " + weight + ")",
+                x -> x.weigh(arc, weight), () -> model.weigh(arc, weight));
     }
 
     private void doOpen(int arc, boolean is) {
-        same("open(" + arc + ", " + is + ")",
-                () -> x.open(arc, is) ? 1 : 0, () -> model.open(arc, is) ? 1 : 0);
+        sameChange("open(" + arc + ", " + is + ")",
+                x -> x.open(arc, is) ? 1 : 0, () -> model.open(arc, is) ? 1 : 0);
     }
 
     private void doSolve() {
-        same("solve()", x::solve, model::solve);
+        sameChange("solve()", TreeOfArcs::solve, model::solve);
     }
 
     private void askInto(int node) {
-        same("into(" + node + ")", () -> x.into(node), () -> model.into(node));
+        same("into(" + node + ")", () -> x().into(node), () -> model.into(node));
     }
 
     private void askReached(int node) {
         same("isReached(" + node + ")",
-                () -> x.isReached(node) ? 1 : 0, () -> model.isReached(node) ? 1 : 0);
+                () -> x().isReached(node) ? 1 : 0, () -> model.isReached(node) ? 1 : 0);
     }
 
     private void askSet(int k, int what) {
-        same("set(" + k + ", " + what + ")", () -> x.set(k, what), () -> model.set(k, what));
+        same("set(" + k + ", " + what + ")", () -> x().set(k, what), () -> model.set(k, what));
     }
 
     private void askIn(int k, int node) {
         same("isIn(" + k + ", " + node + ")",
-                () -> x.isIn(k, node) ? 1 : 0, () -> model.isIn(k, node) ? 1 : 0);
+                () -> x().isIn(k, node) ? 1 : 0, () -> model.isIn(k, node) ? 1 : 0);
     }
 
     private void askDual(int k) {
-        same("dual(" + k + ")", () -> x.dual(k), () -> model.dual(k));
+        same("dual(" + k + ")", () -> x().dual(k), () -> model.dual(k));
     }
 
     private void askSlack(int arc) {
-        same("slack(" + arc + ")", () -> x.slack(arc), () -> model.slack(arc));
+        same("slack(" + arc + ")", () -> x().slack(arc), () -> model.slack(arc));
     }
 
     private void askAbout(int what) {
-        same("about(" + what + ")", () -> x.about(what), () -> model.about(what));
+        same("about(" + what + ")", () -> x().about(what), () -> model.about(what));
     }
 
     private void askTold(int arc, int what) {
-        same("told(" + arc + ", " + what + ")", () -> x.told(arc, what),
+        same("told(" + arc + ", " + what + ")", () -> x().told(arc, what),
                 () -> model.told(arc, what));
     }
 
     private void askDepth(int node) {
-        same("depth(" + node + ")", () -> x.depth(node), () -> model.depth(node));
+        same("depth(" + node + ")", () -> x().depth(node), () -> model.depth(node));
     }
 
     private void askFar(int node) {
-        same("far(" + node + ")", () -> x.far(node), () -> model.far(node));
+        same("far(" + node + ")", () -> x().far(node), () -> model.far(node));
     }
 }
