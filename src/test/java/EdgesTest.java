@@ -27,6 +27,8 @@ public final class EdgesTest {
         oneArcIntoEachNodeButTheRoot();
         leastSumOfPowers();
         powersBelowZero();
+        powersOfRingsWithinRings();
+        powersOfTheSolveBefore();
         noSetWithTheRoot();
         leastAndGreatestRing();
         deepestNest();
@@ -293,6 +295,43 @@ public final class EdgesTest {
             CHECK.same("8: into 2, " + many, x.into(2), many + 2);
             CHECK.same("13: the dual of the ring, " + many, x.dual(2), 4);
         }
+    }
+
+    /** "less the DUALS of all SETS that are parts of S": of all of them, where powers decide. */
+    private static void powersOfRingsWithinRings() {
+        TreeOfArcs x = withNodes(4, 0);
+        x.arc(1, 2, 0);
+        x.arc(2, 3, 0);
+        x.arc(3, 1, 1);
+        arcsIntoRoot(x, 54);
+        x.arc(0, 1, 8);
+        x.arc(0, 3, 7);
+        x.arc(2, 1, 0);
+        x.solve();
+        CHECK.same("10: a ring within a ring", x.sets(), 5);
+        CHECK.same("11: the arc of the inner ring", x.set(3, 1), 2);
+        CHECK.same("11: the arc of the outer ring", x.set(4, 1), 57);
+        CHECK.same("8: into 1, of 0 1 57 and 0 2 58", x.into(1), 57);
+        CHECK.same("8: into 3, of 0 1 57 and 0 2 58", x.into(3), 1);
+        CHECK.same("13: the dual of the outer ring", x.dual(4), 7);
+    }
+
+    /** "at first each NODE but the ROOT is one by itself": nothing is left of a solve before. */
+    private static void powersOfTheSolveBefore() {
+        TreeOfArcs x = withNodes(3, 0);
+        x.arc(0, 1, 7);
+        x.arc(0, 2, 7);
+        x.arc(1, 2, 3);
+        x.arc(2, 1, 3);
+        arcsIntoRoot(x, 55);
+        x.arc(0, 2, 0);
+        x.solve();
+        CHECK.same("8: the arc 59 by its weight", x.into(2), 59);
+        x.open(59, false);
+        x.solve();
+        CHECK.same("8: of arcs 0 2 and 1 3, into 1", x.into(1), 0);
+        CHECK.same("8: of arcs 0 2 and 1 3, into 2", x.into(2), 2);
+        CHECK.same("13: the dual of the ring", x.dual(2), 4);
     }
 
     /** "SETS of NODES, none of them with the ROOT in it: at first each NODE but the ROOT". */

@@ -74,7 +74,8 @@ public final class RefusalsTest {
     /** Numbers that are not 0 .. limit - 1: the first beyond each end, and such as wrap around. */
     private static int[] outside(int limit) {
         return new int[] {
-            -1, limit, limit + 1, -2, -limit - 1, MIN, MAX, MIN + 1, MIN + limit, 64, 128, 256, 65536,
+            -1, limit, limit + 1, -2, -limit - 1, MIN, MAX, MIN + 1, MIN + limit,
+            64, 128, 256, 65536,
         };
     }
 
