@@ -32,6 +32,7 @@ public final class EdgesTest {
         noSetWithTheRoot();
         leastAndGreatestRing();
         deepestNest();
+        deepestNestBeforeOtherNodes();
         nestOfNests();
         numberedBySizeThenLeastNode();
         firstPartOfDuals();
@@ -423,6 +424,31 @@ public final class EdgesTest {
             return Math.max(23, k + 22);
         }
         return k == 44 ? NONE : k + 1;
+    }
+
+    /** The same with its first nodes behind the nest, so that it is come to through them. */
+    private static void deepestNestBeforeOtherNodes() {
+        for (int behind = 0; behind <= 20; behind++) {
+            TreeOfArcs x = withNodes(24, 0);
+            for (int node = 1; node <= behind; node++) {
+                x.arc(node + 1, node, 5);
+            }
+            int first = behind + 1;
+            x.arc(first + 1, first, 1);
+            x.arc(first, first + 1, 1);
+            for (int node = first + 2; node < 24; node++) {
+                x.arc(node - 1, node, 0);
+                x.arc(node, first, node - behind);
+            }
+            x.arc(0, 23, MOST_WEIGHT);
+            x.solve();
+            int within = 23 - behind;
+            String of = ", " + behind + " behind";
+            CHECK.same("10: sets" + of, x.sets(), behind + 2 * within - 1);
+            CHECK.same("11: nodes of the outermost" + of, x.set(x.sets() - 1, 0), within);
+            CHECK.same("13: its dual" + of, x.dual(x.sets() - 1), MOST_WEIGHT);
+            CHECK.same("7: cost" + of, x.cost(), MOST_WEIGHT + within + 1 + 5 * behind);
+        }
     }
 
     /** Rings of two, rings of two rings, and so on: 16 nodes in 31 sets. */
